@@ -1,4 +1,5 @@
-// One method for each promise of the document: ordinary inputs, the edges that the document names, and wrong inputs.
+// Each promise of the document by itself: ordinary inputs, the edges that the document names, and wrong inputs.
+// No object is used for more than 512 calls, as nothing is promised after that.
 public final class SelectorGcPromises {
     private static final int MIN = Integer.MIN_VALUE;
     private static final int MAX = Integer.MAX_VALUE;
@@ -37,9 +38,9 @@ public final class SelectorGcPromises {
     }
 
     private static void promise2Define() {
-        SelectorGc x = new SelectorGc();
         for (int s = 0; s < 6; s++) {
             for (int kind = 0; kind <= 8; kind++) {
+                SelectorGc x = new SelectorGc();
                 for (int a = 0; a < 6; a++) {
                     for (int b = 0; b < 6; b++) {
                         due(call("define", s, kind, a, b), x.define(s, kind, a, b), true);
@@ -48,6 +49,7 @@ public final class SelectorGcPromises {
                 }
             }
         }
+        SelectorGc x = new SelectorGc();
         int[] free = {-1, 6, MIN, MAX};
         for (int n : free) {
             due(call("define COUNT", n), x.define(0, SelectorGc.COUNT, n, n), true);
@@ -300,22 +302,10 @@ public final class SelectorGcPromises {
     }
 
     private static void promise10RefusedChangesNothing() {
-        SelectorGc x = withTwoElements();
-        x.define(4, SelectorGc.MERGE, 0, 3);
-        x.define(5, SelectorGc.WEAVE, 3, 0);
-        String before = answers(x);
         for (int n : OUTSIDE_SEQUENCES) {
-            for (int kind = 0; kind <= 8; kind++) {
-                x.define(n, kind, 0, 0);
-                x.define(n, kind, n, n);
-                if (kind != SelectorGc.COUNT) {
-                    x.define(3, kind, n, n);
-                }
-            }
-            x.define(3, SelectorGc.CONS, 1, n);
-            x.define(3, SelectorGc.SCALE, 1, n);
-            x.define(3, SelectorGc.ADD, 1, n);
-            x.define(3, SelectorGc.ADD, n, 1);
+            SelectorGc x = withAllDefined();
+            String before = answers(x);
+            refusedDefines(x, n);
             x.ready(n, 0);
             x.element(n, 0);
             x.known(n);
@@ -326,16 +316,43 @@ public final class SelectorGcPromises {
             due(call("answers unchanged after refused calls with", n), answers(x).equals(before), true);
         }
         for (int n : OUTSIDE_KINDS) {
+            SelectorGc x = withAllDefined();
+            String before = answers(x);
             x.define(3, n, 0, 0);
             due(call("answers unchanged after kind", n), answers(x).equals(before), true);
         }
         for (int k : OUTSIDE_PLACES) {
+            SelectorGc x = withAllDefined();
+            String before = answers(x);
             x.ready(3, k);
             x.element(3, k);
             due(call("answers unchanged after place", k), answers(x).equals(before), true);
         }
+        SelectorGc x = withAllDefined();
+        String before = answers(x);
         x.define(3, SelectorGc.COUNT, 2, 2);
         due("an accepted call does change the answers", answers(x).equals(before), false);
+    }
+
+    private static SelectorGc withAllDefined() {
+        SelectorGc x = withTwoElements();
+        x.define(4, SelectorGc.MERGE, 0, 3);
+        x.define(5, SelectorGc.WEAVE, 3, 0);
+        return x;
+    }
+
+    private static void refusedDefines(SelectorGc x, int n) {
+        for (int kind = 0; kind <= 8; kind++) {
+            x.define(n, kind, 0, 0);
+            x.define(n, kind, n, n);
+            if (kind != SelectorGc.COUNT) {
+                x.define(3, kind, n, n);
+            }
+        }
+        x.define(3, SelectorGc.CONS, 1, n);
+        x.define(3, SelectorGc.SCALE, 1, n);
+        x.define(3, SelectorGc.ADD, 1, n);
+        x.define(3, SelectorGc.ADD, n, 1);
     }
 
     private static void promise10BadBeforeNone() {
