@@ -20,7 +20,7 @@ public final class SelectorGc {
     private static final int ASKED = 16;
     /**
      * Only TAIL needs a later element than its own. A ready pair that comes back to its own sequence comes back to an
-     * earlier element, so at most five TAILs in a row raise a need: from element 15 to element 20.
+     * earlier element, so over six sequences a need rises at most five times: from element 15 to element 20.
      */
     private static final int DEPTH = 21;
     private static final int CELLS = SEQUENCES * DEPTH;

@@ -27,6 +27,7 @@ public final class SelectorGcPromises {
         longChainOfTails();
         objectsAreApart();
         holdsThrough512Calls();
+        exampleOfReadme();
         System.out.println(wrong == 0 ? "all answers are as due" : wrong + " answers are not as due");
         if (wrong != 0) {
             System.exit(1);
@@ -395,6 +396,23 @@ public final class SelectorGcPromises {
             due(call("define in a long run", n), x.define(n % 6, SelectorGc.COUNT, n, 1), true);
             due(call("element in a long run", n), x.element(n % 6, 15), n + 15);
         }
+    }
+
+    // Call by call what README.md shows, so that it cannot go stale unseen.
+    private static void exampleOfReadme() {
+        SelectorGc x = new SelectorGc();
+        x.define(0, SelectorGc.CONS, 1, 1);
+        x.define(1, SelectorGc.CONS, 1, 2);
+        x.define(2, SelectorGc.ADD, 0, 1);
+        due("README: element(0, 5)", x.element(0, 5), 8);
+        due("README: known(0)", x.known(0), 16);
+        due("README: firstAbove(0, 100)", x.firstAbove(0, 100), 11);
+        x.define(3, SelectorGc.TAIL, 0, 0);
+        due("README: agree(3, 1)", x.agree(3, 1), 16);
+        x.define(4, SelectorGc.SCAN, 4, 0);
+        due("README: ready(4, 0)", x.ready(4, 0), false);
+        due("README: define(6, COUNT, 0, 0)", x.define(6, SelectorGc.COUNT, 0, 0), false);
+        due("README: known(6)", x.known(6), -1);
     }
 
     private static void checkAllZeros(String when, SelectorGc x) {
